@@ -179,7 +179,7 @@ public final class SkyscraperGrid {
         return (grid >>> (2 * (CELLS - 1 - cell)) & 3) + 1;
     }
 
-    /** How many cells are equal in two grids whose packed forms differ in these bits. */
+    /** How many cells have no bit in which packed grids differ. */
     private static int equalCells(int differences) {
         int count = 0;
         for (int cell = 0; cell < CELLS; cell++) {

@@ -14,6 +14,7 @@ public final class FixedCellsTest {
         x.given(0, 3, 0);
         Check.due("fixedCells() after taking it away", 4, x.fixedCells());
         Check.due("fixedCells() solved", 16, Inputs.solved().fixedCells());
+        Check.due("fixedCells() solved as the last", 16, Inputs.solvedAsLast().fixedCells());
         everyCellCounts();
         Check.end();
     }

@@ -25,6 +25,17 @@ final class Inputs {
         return x;
     }
 
+    /** The same with every height h as 5 - h: of the grids without a repeated height, the last in order. */
+    static SkyscraperGrid solvedAsLast() {
+        SkyscraperGrid x = new SkyscraperGrid();
+        for (int row = 0; row < 3; row++) {
+            for (int column = 0; column < 3; column++) {
+                x.given(row, column, 5 - solvedHeight(row, column));
+            }
+        }
+        return x;
+    }
+
     static int solvedHeight(int row, int column) {
         return (row ^ column) + 1;
     }

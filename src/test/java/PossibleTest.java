@@ -3,6 +3,7 @@ public final class PossibleTest {
     public static void main(String[] args) {
         SkyscraperGrid free = new SkyscraperGrid();
         SkyscraperGrid solved = Inputs.solved();
+        SkyscraperGrid last = Inputs.solvedAsLast();
         SkyscraperGrid none = new SkyscraperGrid();
         none.given(0, 0, 1);
         none.given(0, 1, 1);
@@ -11,6 +12,7 @@ public final class PossibleTest {
                 String call = "possible(" + row + ", " + column + ")";
                 Check.due(call + " without hints", 15, free.possible(row, column));
                 Check.due(call + " solved", 1 << (row ^ column), solved.possible(row, column));
+                Check.due(call + " solved as the last", 8 >> (row ^ column), last.possible(row, column));
                 Check.due(call + " without solutions", 0, none.possible(row, column));
             }
         }

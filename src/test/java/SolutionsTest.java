@@ -17,6 +17,7 @@ public final class SolutionsTest {
         x.given(0, 3, 0);
         Check.due("solutions() after taking it away", 24, x.solutions());
         Check.due("solutions() of a solved grid", 1, Inputs.solved().solutions());
+        Check.due("solutions() of the last grid", 1, Inputs.solvedAsLast().solutions());
         kindsOfHintsTogether();
         Check.end();
     }

@@ -5,6 +5,7 @@ public final class VotesTest {
     public static void main(String[] args) {
         SkyscraperGrid free = new SkyscraperGrid();
         SkyscraperGrid solved = Inputs.solved();
+        SkyscraperGrid last = Inputs.solvedAsLast();
         SkyscraperGrid none = new SkyscraperGrid();
         none.clue(SkyscraperGrid.TOP, 1, 1);
         none.clue(SkyscraperGrid.TOP, 2, 1);
@@ -16,6 +17,8 @@ public final class VotesTest {
                 int one = Inputs.solvedHeight(row, column) == h ? 1 : 0;
                 Check.due(call + " without hints", 144, free.votes(row, column, h));
                 Check.due(call + " solved", one, solved.votes(row, column, h));
+                int oneInLast = 5 - Inputs.solvedHeight(row, column) == h ? 1 : 0;
+                Check.due(call + " solved as the last", oneInLast, last.votes(row, column, h));
                 Check.due(call + " without solutions", 0, none.votes(row, column, h));
             }
         }
